@@ -7,7 +7,9 @@ import java.nio.file.Files;
 import java.nio.file.Path;
 import java.util.ArrayList;
 import java.util.List;
+import java.util.Map;
 import java.util.Set;
+import java.util.TreeMap;
 import java.util.TreeSet;
 import java.util.regex.Matcher;
 import java.util.regex.Pattern;
@@ -109,13 +111,21 @@ public final class LanguageTest {
                 fault("rule 10: more than seven parameters: " + m);
             }
         }
+        int fields = 0;
         for (Field f : RecurrenceEngine.class.getDeclaredFields()) {
             if (!isNumberType(f.getType())) {
                 fault("rule 2: " + f);
             }
+            fields += Modifier.isStatic(f.getModifiers()) ? 0 : 1;
             if (Modifier.isStatic(f.getModifiers()) && f.getType() != int.class && f.getType() != long.class) {
                 fault("rule 5: " + f);
             }
+            if (Modifier.isStatic(f.getModifiers()) && !Modifier.isFinal(f.getModifiers())) {
+                fault("rule 5: not a constant: " + f);
+            }
+        }
+        if (fields > 40) {
+            fault("rule 10: " + fields + " fields");
         }
     }
 
@@ -133,7 +143,82 @@ public final class LanguageTest {
                 fault("rule 8, read it anew: " + line.trim());
             }
         }
+        dueNowhere("rule 2: a fraction", "\\d\\.|\\.\\d|\\b\\d+[fFdDeE]", code);
+        dueNowhere("rule 4: an array made of its values", "=\\s*\\{", code);
+        dueNowhere("rule 7: a divisor that is no constant", "[/%]=?(?!=)(?! *MODULUS\\b)", code);
         checkNestedCalls(code);
+        checkMethods(code);
+    }
+
+    private static void dueNowhere(String what, String shape, String code) {
+        Matcher found = Pattern.compile("[^\n]*(" + shape + ")[^\n]*").matcher(code);
+        while (found.find()) {
+            fault(what + ": " + found.group().trim());
+        }
+    }
+
+    /** The methods' bodies by their names; a method begins and ends at the indent of a member. */
+    private static Map<String, String> bodies(String code) {
+        Map<String, String> bodies = new TreeMap<>();
+        Matcher method = Pattern.compile("(?ms)^    (?:public|private)[^;=\n]* (\\w+)\\([^)]*\\) \\{\n(.*?)^    \\}").matcher(code);
+        while (method.find()) {
+            if (bodies.put(method.group(1), method.group(2)) != null) {
+                fault("two methods are named " + method.group(1) + ", which this test can't tell apart");
+            }
+        }
+        return bodies;
+    }
+
+    private static void checkMethods(String code) {
+        Map<String, String> bodies = bodies(code);
+        if (bodies.size() != RecurrenceEngine.class.getDeclaredMethods().length + 1) {
+            fault("this test sees the methods " + bodies.keySet() + " alone");
+        }
+        for (Map.Entry<String, String> method : bodies.entrySet()) {
+            int lines = method.getValue().split("\n").length + 2;
+            if (lines > 60) {
+                fault("rule 10: " + method.getKey() + " has " + lines + " lines");
+            }
+            int depth = depth(method.getKey(), bodies, 0);
+            if (depth > 6) {
+                fault("rules 8 and 10: calls go more than six deep from " + method.getKey());
+            }
+            checkLoops(method.getKey(), method.getValue());
+        }
+    }
+
+    /** How deep the calls go from a method, itself counted in; a recursion ends just above what is allowed. */
+    private static int depth(String name, Map<String, String> bodies, int above) {
+        if (above > 6) {
+            return 1;
+        }
+        int deepest = 0;
+        Matcher call = Pattern.compile("\\b(\\w+)\\(").matcher(bodies.get(name));
+        while (call.find()) {
+            if (bodies.containsKey(call.group(1))) {
+                deepest = Math.max(deepest, depth(call.group(1), bodies, above + 1));
+            }
+        }
+        return deepest + 1;
+    }
+
+    /** Every loop counts up to a bound, and nothing else in its method sets the counter. */
+    private static void checkLoops(String name, String body) {
+        Pattern counted = Pattern.compile("\\(int (\\w+) = [^;]+; [^;]*\\b\\1 <=? [^;]+; \\1\\+\\+\\)");
+        Matcher loop = Pattern.compile("\\bfor (\\([^\n]*\\)) \\{").matcher(body);
+        int loops = 0;
+        while (loop.find()) {
+            loops++;
+            Matcher header = counted.matcher(loop.group(1));
+            if (!header.matches()) {
+                fault("rule 8: " + name + " has the loop " + loop.group(1));
+            } else if (Pattern.compile("(?<!int )\\b" + header.group(1) + " [-+*/%&|^]?= ").matcher(body).find()) {
+                fault("rule 8: " + name + " sets the counter " + header.group(1));
+            }
+        }
+        if (loops != body.split("\\bfor\\b", -1).length - 1) {
+            fault("rule 8: " + name + " has a loop that this test can't read");
+        }
     }
 
     /** Between the brackets of a call no second name stands ahead of an opening bracket. */
