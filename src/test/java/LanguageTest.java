@@ -144,8 +144,11 @@ public final class LanguageTest {
             }
         }
         dueNowhere("rule 2: a fraction", "\\d\\.|\\.\\d|\\b\\d+[fFdDeE]", code);
+        dueNowhere("rule 3: a method of Object", "\\b(equals|hashCode|toString|getClass|clone|wait|notify|notifyAll|finalize)\\b", code);
         dueNowhere("rule 4: an array made of its values", "=\\s*\\{", code);
+        dueNowhere("rule 5: a static field that is no constant of numbers", "\\bstatic final \\w+ \\w+( =[^;]*\\(|;)", code);
         dueNowhere("rule 7: a divisor that is no constant", "[/%]=?(?!=)(?! *MODULUS\\b)", code);
+        dueNowhere("rule 11, read it anew: a name with a dot", "\\w\\.\\w", code);
         checkNestedCalls(code);
         checkMethods(code);
     }
